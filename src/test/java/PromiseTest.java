@@ -9,8 +9,8 @@ public final class PromiseTest {
             + "act 0 5 uses 0 3 to 1 50 to 2 50;act 0 - 2 uses 1 1 to 0 100;act 1 1 to 1 100;"
             + "act 2 0 uses 0 1 uses 1 2 to 0 20 to 2 80;rule 0 6 4";
     /** Two states of which all rows have the same chance, and actions that gain the same. */
-    private static final String EVEN = "chain states 2 horizon 2 seed 0;act 0 3 to 1 50 to 0 50;act 0 3 to 1 50 to 0 50;"
-            + "act 1 3 to 0 50 to 1 50;act 1 3 to 0 50 to 1 50;start 1";
+    private static final String EVEN = "chain states 2 horizon 2 seed 0;"
+            + "act 0 3 to 1 50 to 0 50;act 0 3 to 1 50 to 0 50;act 1 3 to 0 50 to 1 50;act 1 3 to 0 50 to 1 50;start 1";
 
     public static void main(String[] args) {
         textPromises();
@@ -526,8 +526,8 @@ public final class PromiseTest {
         Check.due("35: of several the smallest", 0, () -> y.likeliestAt(1));
         Check.due("35: of several the smallest", 0, () -> y.likeliestAt(2));
         // Both actions lead to state 1 with 40, more than the 30 of each to a state of its own.
-        DecisionChain z = Check.loaded("chain states 3 horizon 1 seed 0;act 0 0 to 0 60 to 1 40;act 0 0 to 2 60 to 1 40;"
-                + "act 1 0 to 1 100;act 2 0 to 2 100;rule 0 5 5");
+        DecisionChain z = Check.loaded("chain states 3 horizon 1 seed 0;act 0 0 to 0 60 to 1 40;"
+                + "act 0 0 to 2 60 to 1 40;act 1 0 to 1 100;act 2 0 to 2 100;rule 0 5 5");
         Check.due("34: a row, not an action's", 400L, z::likeliest);
         Check.due("35: a row, not an action's", 1, () -> z.likeliestAt(1));
     }
@@ -557,7 +557,8 @@ public final class PromiseTest {
         DecisionChain y = Check.loaded(EVEN);
         Check.due("37: of several the smallest", 0, () -> y.valueAction(0, 5));
         // The action that gains less now leads to where much is gained.
-        DecisionChain z = Check.loaded("chain states 2 horizon 1 seed 0;act 0 1 to 0 100;act 0 0 to 1 100;act 1 9 to 1 100");
+        DecisionChain z = Check.loaded("chain states 2 horizon 1 seed 0;act 0 1 to 0 100;act 0 0 to 1 100;"
+                + "act 1 9 to 1 100");
         Check.due("37: one step", 0, () -> z.valueAction(0, 1));
         Check.due("37: two steps", 1, () -> z.valueAction(0, 2));
         Check.due("36: two steps", 900L, () -> z.value(0, 2));
@@ -661,8 +662,8 @@ public final class PromiseTest {
         Check.noIndex("43: bestWeight(0, -1, 0)", () -> x.bestWeight(0, -1, 0));
         Check.noIndex("43: bestWeight(3, 0, 1)", () -> x.bestWeight(3, 0, 1));
         // The weight of the third action counts for nothing while two others are weighed.
-        DecisionChain y = Check.loaded("chain states 1 horizon 1 seed 0;budget 1;act 0 1 to 0 100;act 0 2 uses 0 2 to 0 100;"
-                + "act 0 9 uses 0 50 to 0 100;rule 0 0 0 10");
+        DecisionChain y = Check.loaded("chain states 1 horizon 1 seed 0;budget 1;"
+                + "act 0 1 to 0 100;act 0 2 uses 0 2 to 0 100;act 0 9 uses 0 50 to 0 100;rule 0 0 0 10");
         Check.due("43: bestWeight(0, 0, 1)", 5, () -> y.bestWeight(0, 0, 1));
         Check.due("43: bestWeight(0, 1, 2)", NONE, () -> y.bestWeight(0, 1, 2));
     }
@@ -754,8 +755,8 @@ public final class PromiseTest {
         Check.due("52: weight(0, 0)", 0, () -> x.weight(0, 0));
         Check.due("52: weight(0, 1)", 10, () -> x.weight(0, 1));
         Check.due("52: each is a change", 5, x::undoable);
-        int[][] wrong = {{-1, 11, 0}, {11, -1, 0}, {5, 4, 0}, {5, 6, 0}, {0, 0, 10}, {5, 0, 5}, {10, 0, -1}, {10, 1, -1},
-            {Integer.MAX_VALUE, Integer.MAX_VALUE, 12}, {10, Integer.MIN_VALUE, Integer.MIN_VALUE}};
+        int[][] wrong = {{-1, 11, 0}, {11, -1, 0}, {5, 4, 0}, {5, 6, 0}, {0, 0, 10}, {5, 0, 5}, {10, 0, -1},
+            {10, 1, -1}, {Integer.MAX_VALUE, Integer.MAX_VALUE, 12}, {10, Integer.MIN_VALUE, Integer.MIN_VALUE}};
         for (int[] w : wrong) {
             Check.noArgument("52: setRule", () -> x.setRule(0, w[0], w[1], w[2]));
         }
@@ -767,7 +768,8 @@ public final class PromiseTest {
         x.permit(0, 0, false);
         x.setRule(0, 10, 0, 0);
         Check.due("52: rules may tell what is not permitted", 10, () -> x.weight(0, 0));
-        DecisionChain y = Check.loaded("chain states 1 horizon 1 seed 0;act 0 1 to 0 100;act 0 2 to 0 100;act 0 3 to 0 100");
+        DecisionChain y = Check.loaded("chain states 1 horizon 1 seed 0;act 0 1 to 0 100;act 0 2 to 0 100;"
+                + "act 0 3 to 0 100");
         Check.due("52: setRule(0, 1, 2, 7)", 0, () -> y.setRule(0, 1, 2, 7));
         Check.due("52: gainOfRun()", 26L, y::gainOfRun);
     }
