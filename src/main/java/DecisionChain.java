@@ -948,7 +948,7 @@ public final class DecisionChain {
             if (input.kind != Input.NUMBER) {
                 return fail(NOT_ALLOWED);
             }
-            setWeights(settings.weights, state, 0, 0, 0);
+            // The first WEIGHT replaces the 10 of a state without a rule line; the others are 0 until they are told.
             int rest = ALL_WEIGHT;
             for (int action = 0; action <= MOST_ACTIONS && input.kind == Input.NUMBER; action++) {
                 if (action >= chain.actions[state]) {

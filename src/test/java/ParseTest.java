@@ -69,6 +69,8 @@ public final class ParseTest {
         wrongAt("chain", "\n", 1);
         wrongAt("", "chains", 1);
         wrongAt("", "chai", 1);
+        wrongAt("", "thain", 1);
+        wrongAt("", "chair", 1);
         wrongAt("", "chainstat", 1);
         wrongAt("chain states ", "000001", 1);
         wrongAt("chain states ", "1234567890123", 1);

@@ -30,6 +30,12 @@ public final class PromiseTest {
         return Check.loaded(TEXT);
     }
 
+    /** State 1 is reached with the weight 1 and the percent 1. */
+    private static DecisionChain rare() {
+        return Check.loaded("chain states 2 horizon 2 seed 0;budget 9;act 0 0 uses 0 1 to 0 100;"
+                + "act 0 0 to 0 99 to 1 1;act 1 0 uses 0 10 to 1 100;rule 0 9 1");
+    }
+
     private static void textPromises() {
         promise1();
         promise2();
@@ -227,6 +233,8 @@ public final class PromiseTest {
         Check.noState("3: nothing is saved", () -> x.restore(0));
         Check.due("3: no amounts are left", 4, x::pureSets);
         Check.due("3: best gain of the new chain", 60000L, x::bestGain);
+        Check.load(x, "chain states 2 horizon 2 seed 0;act 0 4 to 0 100;act 1 5 to 1 100;start 1");
+        Check.due("3: best gain of a chain of the same start and horizon", 100000L, x::bestGain);
     }
 
     private static void promises4And5() {
@@ -274,6 +282,8 @@ public final class PromiseTest {
         DecisionChain x = Check.loaded(TEXT + ";start 2");
         Check.due("10: start()", 2, x::start);
         Check.due("10: start()", 0, fresh()::start);
+        Check.load(x, TEXT);
+        Check.due("10: a start line of the text before", 0, x::start);
     }
 
     private static void promises11To14() {
@@ -362,6 +372,7 @@ public final class PromiseTest {
         x.setRule(0, 0, 10, 0);
         Check.due("19: isClosed(1)", true, () -> x.isClosed(1));
         Check.due("19: isClosed(5)", true, () -> x.isClosed(5));
+        Check.due("19: the least weight and percent", false, () -> rare().isClosed(1));
     }
 
     private static void promise20() {
@@ -474,6 +485,7 @@ public final class PromiseTest {
         x.setRule(0, 0, 10, 0);
         Check.due("30: an action of the weight 0", 0, () -> x.mostUsed(0));
         Check.due("30: mostUsed(1)", 3, () -> x.mostUsed(1));
+        Check.due("30: the least weight and percent", 10, () -> rare().mostUsed(0));
         Check.noIndex("30: mostUsed(2)", () -> x.mostUsed(2));
         Check.noIndex("30: mostUsed(-1)", () -> x.mostUsed(-1));
     }
@@ -666,6 +678,9 @@ public final class PromiseTest {
                 + "act 0 1 to 0 100;act 0 2 uses 0 2 to 0 100;act 0 9 uses 0 50 to 0 100;rule 0 0 0 10");
         Check.due("43: bestWeight(0, 0, 1)", 5, () -> y.bestWeight(0, 0, 1));
         Check.due("43: bestWeight(0, 1, 2)", NONE, () -> y.bestWeight(0, 1, 2));
+        y.setLimit(0, 35);
+        Check.due("43: bestWeight(0, 0, 2)", 7, () -> y.bestWeight(0, 0, 2));
+        Check.due("43: bestWeight(0, 2, 0)", 3, () -> y.bestWeight(0, 2, 0));
     }
 
     private static void promises44To48() {
@@ -761,6 +776,8 @@ public final class PromiseTest {
             Check.noArgument("52: setRule", () -> x.setRule(0, w[0], w[1], w[2]));
         }
         Check.noArgument("52: setRule(1, 0, 10, 0)", () -> x.setRule(1, 0, 10, 0));
+        Check.noArgument("52: setRule(1, 9, 1, 0)", () -> x.setRule(1, 9, 1, 0));
+        Check.noArgument("52: setRule(0, 9, 0, 1)", () -> x.setRule(0, 9, 0, 1));
         Check.noIndex("52: setRule(3, 11, 0, 0)", () -> x.setRule(3, 11, 0, 0));
         Check.noIndex("52: setRule(-1, 10, 0, 0)", () -> x.setRule(-1, 10, 0, 0));
         Check.due("52: an exception changes nothing", 5, x::undoable);
@@ -772,6 +789,9 @@ public final class PromiseTest {
                 + "act 0 3 to 0 100");
         Check.due("52: setRule(0, 1, 2, 7)", 0, () -> y.setRule(0, 1, 2, 7));
         Check.due("52: gainOfRun()", 26L, y::gainOfRun);
+        Check.noArgument("52: setRule(0, -10, 10, 10)", () -> y.setRule(0, -10, 10, 10));
+        Check.noArgument("52: setRule(0, 10, -10, 10)", () -> y.setRule(0, 10, -10, 10));
+        Check.noArgument("52: setRule(0, 10, 10, -10)", () -> y.setRule(0, 10, 10, -10));
     }
 
     private static void promise53() {
