@@ -1,0 +1,103 @@
+/** All that an object answers, as a text; the object is used up by it. */
+final class Whole {
+    private final DecisionChain x;
+    private final StringBuilder all = new StringBuilder();
+
+    private Whole(DecisionChain asked) {
+        x = asked;
+    }
+
+    static String of(DecisionChain x) {
+        Whole whole = new Whole(x);
+        whole.addInput();
+        whole.addChain();
+        whole.addBytes();
+        return whole.all.toString();
+    }
+
+    /** All but what is in the input buffer and what went wrong in the latest parse. */
+    static String ofChain(DecisionChain x) {
+        Whole whole = new Whole(x);
+        whole.addChain();
+        return whole.all.toString();
+    }
+
+    /** What is saved by save and given back by undo. */
+    static String ofState(DecisionChain x) {
+        Whole whole = new Whole(x);
+        whole.addState();
+        return whole.all.toString();
+    }
+
+    private void add(String what, Check.Call call) {
+        all.append(what).append(' ').append(Check.answerOf(call)).append('\n');
+    }
+
+    private void addInput() {
+        add("buffered", x::buffered);
+        add("parseError", x::parseError);
+        add("errorPosition", x::errorPosition);
+    }
+
+    private void addChain() {
+        add("states", x::states);
+        add("budgets", x::budgets);
+        addReport();
+        add("gainOfRun", x::gainOfRun);
+        add("bestGain", x::bestGain);
+        addState();
+        add("undoable", x::undoable);
+        for (int left = Math.min(x.undoable(), 7); left > 0; left--) {
+            add("undo", x::undo);
+            addState();
+        }
+        add("undo", x::undo);
+        for (int slot = 0; slot < 2; slot++) {
+            int k = slot;
+            add("restore", () -> x.restore(k));
+            addState();
+        }
+    }
+
+    private void addReport() {
+        for (int i = 0; i < 20; i++) {
+            int k = i;
+            add("reportByte", () -> x.reportByte(k));
+        }
+    }
+
+    private void addState() {
+        add("horizon", x::horizon);
+        add("start", x::start);
+        add("seed", x::seed);
+        for (int state = 0; state < x.states(); state++) {
+            for (int action = 0; action < 3; action++) {
+                int s = state;
+                int a = action;
+                add("weight", () -> x.weight(s, a));
+                add("isPermitted", () -> x.isPermitted(s, a));
+            }
+        }
+        for (int budget = 0; budget < x.budgets(); budget++) {
+            int b = budget;
+            add("limit", () -> x.limit(b));
+        }
+        addWalk();
+    }
+
+    private void addWalk() {
+        String answer = "";
+        for (int t = 0; t < 7 && !answer.startsWith("throws"); t++) {
+            int time = t;
+            answer = Check.answerOf(() -> x.walked(time)) + Check.answerOf(() -> x.walkedBy(time));
+            all.append("walk ").append(answer).append('\n');
+        }
+    }
+
+    /** What the buffer holds is seen by parsing it. */
+    private void addBytes() {
+        int bytes = x.buffered();
+        add("load", () -> x.load(bytes));
+        addInput();
+    }
+}
