@@ -35,6 +35,17 @@ final class BestSentences extends Sentences {
         return x;
     }
 
+    /** The run goes through all states in five steps; only the last pure rule set holds the second budget. */
+    private static DecisionChain lastOfAll() {
+        StringBuilder text = new StringBuilder("chain states 6 horizon 5 seed 0;budget 6;budget 0");
+        for (int k = 0; k < 6; k++) {
+            String next = k == 0 ? " to 1 20 to 2 20 to 3 20 to 4 20 to 5 20" : " to " + k + " 100";
+            text.append(";act " + k + " 9 uses 1 1" + next + ";act " + k + " 9 uses 1 1" + next);
+            text.append(";act " + k + " 1 uses 0 1" + next);
+        }
+        return loaded(text.toString());
+    }
+
     private static DecisionChain without(String text, int... pairs) {
         DecisionChain x = loaded(text);
         for (int k = 0; k < pairs.length; k += 2) {
@@ -69,15 +80,15 @@ final class BestSentences extends Sentences {
         says("of several it has the smallest action in state 0, then in state 1, and so on.");
         row("0 1 and 1 0", loaded(TIES), DecisionChain::bestAction, 0, 1);
         row("states that are not reached", big(), DecisionChain::bestAction, 1, 0, 0, 0, 0, 0);
-        row("the first of which is not permitted", without(bigText(), 1, 0, 5, 0), DecisionChain::bestAction, 1, 1, 0, 0,
-                0, 1);
+        row("the first of which is not permitted", without(bigText(), 1, 0, 5, 0), DecisionChain::bestAction,
+                1, 1, 0, 0, 0, 1);
         row("0 1 is not permitted", without(TIES, 1, 1), DecisionChain::bestAction, 1, 0);
     }
 
     private static void values() {
-        says("The value of n steps from a state, n from 0 to 5, is the greatest mean of the sum of gains of n steps from"
-                + " it, times 100 to the power of n - 1, if before each step any permitted action may be chosen, whatever"
-                + " the budgets;");
+        says("The value of n steps from a state, n from 0 to 5, is the greatest mean of the sum of gains of n steps"
+                + " from it, times 100 to the power of n - 1, if before each step any permitted action may be chosen,"
+                + " whatever the budgets;");
         row("value(0, n)", big(), (x, n) -> x.value(0, n), 0L, 2L, 2100L, 510000L, 91000000L, 14100000000L);
         row("value(5, n)", big(), (x, n) -> x.value(5, n), 0L, 52L, 10400L, 1560000L, 208000000L, 26000000000L);
         row("value(0, n) with percents", mid(), (x, n) -> x.value(0, n), 0L, 5L, 550L, 65000L);
@@ -85,7 +96,8 @@ final class BestSentences extends Sentences {
                 14100000000L);
         row("permitted actions alone", without(bigText(), 5, 2, 5, 0), (x, n) -> x.value(5, n), 0L, -51L, -3900L);
         row("another action before another step", loaded("chain states 1 horizon 1 seed 0;act 0 -9 to 0 100;"
-                + "act 0 7 to 0 100"), (x, n) -> x.value(0, n), 0L, 7L, 1400L, 210000L, 28000000L, 3500000000L, NO_ARGUMENT);
+                + "act 0 7 to 0 100"), (x, n) -> x.value(0, n), 0L, 7L, 1400L, 210000L, 28000000L, 3500000000L,
+                NO_ARGUMENT);
         says("it is 0 for n = 0.");
         row("value(k, 0)", big(), (x, k) -> x.value(k, 0), 0L, 0L, 0L, 0L, 0L, 0L, NO_INDEX);
         due("where all gains are below 0", 0L, () -> steady("-999", 1, 0).value(0, 0));
@@ -146,7 +158,8 @@ final class BestSentences extends Sentences {
         row("all are equal", loaded(same), (x, n) -> x.valueAction(0, n + 1), 0, 0, 0, 0, 0, NO_ARGUMENT);
         row("the first is not permitted", without(same, 0, 0), (x, n) -> x.valueAction(0, n + 1), 1, 1, 1, 1, 1);
         row("the last alone is permitted", without(same, 0, 0, 0, 1), (x, n) -> x.valueAction(0, n + 1), 2, 2, 2, 2, 2);
-        row("the last two are the best", loaded(same.replaceFirst("-3", "-4")), (x, n) -> x.valueAction(0, n + 1), 1, 1);
+        row("the last two are the best", loaded(same.replaceFirst("-3", "-4")), (x, n) -> x.valueAction(0, n + 1),
+                1, 1);
         says("Throws `IndexOutOfBoundsException` if there is no such state");
         noSuchState((z, k) -> z.valueAction(k, 1));
         noSuchState((z, k) -> z.valueAction(k, 0));
@@ -175,6 +188,7 @@ final class BestSentences extends Sentences {
         x.permit(0, 1, false);
         due("another permission", 109 * U5, x::bestGain);
         says("Returns the gain;");
+        due("of the last one of 729", 5 * U5, () -> lastOfAll().bestGain());
         due("the greatest", 4995 * U5, () -> steady("999", 1, 5).bestGain());
         due("the smallest", -4995 * U5, () -> steady("-999", 1, 5).bestGain());
         due("none", 0L, () -> tiny().bestGain());
@@ -190,6 +204,7 @@ final class BestSentences extends Sentences {
         says("Returns the action to which the best pure rule set gives the weight 10 in a state.");
         row("bestAction", limited(9999, 9999, 25), DecisionChain::bestAction, 1, 0, 0, 0, 0, 2);
         row("bestAction", limited(1), DecisionChain::bestAction, 0, 1, 0, 1, 0, 1);
+        row("the last one of 729", lastOfAll(), DecisionChain::bestAction, 2, 2, 2, 2, 2, 2);
         says("- `state`: number of the state");
         due("the first one", 1, () -> big().bestAction(0));
         due("the last one", 2, () -> limited(9999, 50, 25).bestAction(5));
@@ -218,6 +233,7 @@ final class BestSentences extends Sentences {
         says("Returns the number, 0 to 729.");
         due("the smallest", 0, () -> limited(0, 57, 0).pureSets());
         due("one", 1, () -> tiny().pureSets());
+        due("the last one of 729", 1, () -> lastOfAll().pureSets());
         due("the greatest", 729, () -> limited(9999, 9999, 9999).pureSets());
         DecisionChain few = big();
         for (int state = 0; state < 6; state++) {
@@ -270,13 +286,16 @@ final class BestSentences extends Sentences {
 
     private static void leastLimit() {
         promise(42);
-        says("Finds the smallest LIMIT of a budget, from 0 to 9999, with which there would be a pure rule set with which"
-                + " all budgets hold.");
+        says("Finds the smallest LIMIT of a budget, from 0 to 9999, with which there would be a pure rule set with"
+                + " which all budgets hold.");
         row("leastLimit", mid(), DecisionChain::leastLimit, 0, 2);
         row("leastLimit", big(), DecisionChain::leastLimit, 1, 0, 0);
         due("the budget 1 has 58", 0, () -> limited(9999, 58).leastLimit(0));
         due("the budget 1 has 57", 1, () -> limited(9999, 57).leastLimit(0));
         due("the budget 1 has 49", 3, () -> limited(9999, 49).leastLimit(0));
+        due("the last one of 729", 5, () -> lastOfAll().leastLimit(0));
+        due("all actions are permitted", 0, () -> mid().leastLimit(0));
+        due("permitted actions alone", 5, () -> without(MID, 0, 1).leastLimit(0));
         due("its own LIMIT does not matter", 1, () -> limited(0, 50, 0).leastLimit(0));
         DecisionChain x = limited(0, 50, 0);
         x.leastLimit(0);
@@ -288,8 +307,10 @@ final class BestSentences extends Sentences {
         due("the greatest", 495, () -> steady("1", 99, 0).leastLimit(0));
         due("a part of 1", 1, () -> partOf().leastLimit(0));
         says("NONE if there is none.");
-        row("the third one holds with no LIMIT, as what uses it uses the first one", limited(0, 0, 0), DecisionChain::leastLimit, 15, 58, NONE);
-        DecisionChain none = loaded("chain states 1 horizon 1 seed 0;budget 0;budget 0;act 0 0 uses 0 1 uses 1 1 to 0 100");
+        row("the third one holds with no LIMIT, as what uses it uses the first one", limited(0, 0, 0),
+                DecisionChain::leastLimit, 15, 58, NONE);
+        DecisionChain none = loaded("chain states 1 horizon 1 seed 0;budget 0;budget 0;"
+                + "act 0 0 uses 0 1 uses 1 1 to 0 100");
         row("the other one never holds", none, DecisionChain::leastLimit, NONE, NONE, NO_INDEX);
         none.setLimit(0, 1);
         row("the other one holds", none, DecisionChain::leastLimit, NONE, 1, NO_INDEX);
@@ -312,14 +333,28 @@ final class BestSentences extends Sentences {
         says("Finds the weight of another action with which the gain of a run would be greatest, if only these two"
                 + " actions of the state had weights and all budgets held;");
         due("2 are used by the weight 5 to 1", 5, () -> loaded(WEIGHED).bestWeight(0, 0, 1));
-        due("1 is used by the weight 10 to 1", 0, () -> loaded(WEIGHED.replace("uses 0 2", "uses 0 1")).bestWeight(0, 1, 0));
+        due("1 is used by the weight 10 to 1", 0,
+                () -> loaded(WEIGHED.replace("uses 0 2", "uses 0 1")).bestWeight(0, 1, 0));
         DecisionChain x = loaded(WEIGHED);
         x.setLimit(0, 35);
         due("50 are used by the weight 7 to 35", 7, () -> x.bestWeight(0, 0, 2));
         x.setLimit(0, 34);
         due("50 are used by the weight 6 to 30", 6, () -> x.bestWeight(0, 0, 2));
         due("the rules stay", 10, () -> x.weight(0, 2));
-        due("the rules of the other states count", 10, () -> loaded(bigText() + ";start 5").bestWeight(5, 1, 0));
+        // Behind state 0 the rule of state 1 decides: its action 0 gains nothing, its action 1 gains 9.
+        DecisionChain behind = loaded("chain states 2 horizon 2 seed 0;act 0 1 to 0 100;act 0 0 to 1 100;"
+                + "act 1 0 to 1 100;act 1 9 to 1 100");
+        due("the rules of the other states count", 0, () -> behind.bestWeight(0, 0, 1));
+        behind.setRule(1, 0, 10, 0);
+        due("the rules of the other states count", 10, () -> behind.bestWeight(0, 0, 1));
+        behind.undo();
+        due("the rules of the other states count", 0, () -> behind.bestWeight(0, 0, 1));
+        DecisionChain third = loaded("chain states 1 horizon 1 seed 0;budget 1;act 0 0 uses 0 99 to 0 100;"
+                + "act 0 1 to 0 100;act 0 2 uses 0 1 to 0 100");
+        due("the first of three has no weight", 10, () -> third.bestWeight(0, 1, 2));
+        due("the third of three has no weight", 1, () -> loaded("chain states 1 horizon 1 seed 0;budget 1;"
+                + "act 0 1 to 0 100;act 0 2 uses 0 9 to 0 100;act 0 9 uses 0 99 to 0 100;"
+                + "rule 0 0 0 10").bestWeight(0, 0, 1));
         says("whether they are permitted does not matter.");
         x.permit(0, 2, false);
         x.permit(0, 0, false);
@@ -347,7 +382,8 @@ final class BestSentences extends Sentences {
         DecisionChain same = mid();
         same.setStart(1);
         due("of several the smallest", 0, () -> same.bestWeight(0, 1, 0));
-        DecisionChain least = loaded("chain states 1 horizon 1 seed 0;budget 1;act 0 1 uses 0 2 to 0 100;act 0 1 to 0 100");
+        DecisionChain least = loaded("chain states 1 horizon 1 seed 0;budget 1;act 0 1 uses 0 2 to 0 100;"
+                + "act 0 1 to 0 100");
         due("of those with which the budgets hold the smallest", 5, () -> least.bestWeight(0, 0, 1));
         says("NONE if the budgets hold with no weight.");
         due("2 of the LIMIT 1", NONE, () -> loaded(WEIGHED).bestWeight(0, 1, 2));

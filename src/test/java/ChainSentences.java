@@ -42,8 +42,8 @@ final class ChainSentences extends Sentences {
         row("gain", tiny(), (x, k) -> x.gain(0, k), 0, NO_INDEX);
         row("gain", mid(), (x, k) -> x.gain(0, k), 5, -2, NO_INDEX);
         row("gain", big(), (x, k) -> x.gain(5, k), 50, -51, 52, NO_INDEX);
-        DecisionChain mixed = loaded("chain states 2 horizon 1 seed 0;act 1 7 to 0 100;act 0 1 to 0 100;act 1 8 to 0 100;"
-                + "act 0 2 to 0 100;act 1 9 to 0 100");
+        DecisionChain mixed = loaded("chain states 2 horizon 1 seed 0;act 1 7 to 0 100;act 0 1 to 0 100;"
+                + "act 1 8 to 0 100;act 0 2 to 0 100;act 1 9 to 0 100");
         row("gain of lines that are mixed", mixed, (x, k) -> x.gain(1, k), 7, 8, 9);
         row("gain of lines that are mixed", mixed, (x, k) -> x.gain(0, k), 1, 2, NO_INDEX);
         due("a state without an action", NO_ARGUMENT, () -> loaded("chain states 1 horizon 1 seed 0"));

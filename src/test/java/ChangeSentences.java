@@ -116,8 +116,8 @@ final class ChangeSentences extends Sentences {
     }
 
     private static void nothingChanges() {
-        says("A call of a method that throws an exception changes nothing, except that load empties the input buffer and"
-                + " sets parseError() and errorPosition().");
+        says("A call of a method that throws an exception changes nothing, except that load empties the input buffer"
+                + " and sets parseError() and errorPosition().");
         refused(NO_ARGUMENT, Sentences::busy, "setRule", x -> x.setRule(0, 10, 1, 0));
         refused(NO_ARGUMENT, Sentences::busy, "permit", x -> x.permit(0, 0, false));
         refused(NO_ARGUMENT, Sentences::busy, "setLimit", x -> x.setLimit(0, -1));
@@ -154,11 +154,26 @@ final class ChangeSentences extends Sentences {
                     y -> y.restore(0));
             due(change.name + ", save, undo and restore", behind, () -> Whole.ofState(saved));
         }
+        askedBefore();
         DecisionChain x = busy();
         x.restore(1);
         due("the buffer does not belong to it", 20, x::buffered);
         due("the error does not belong to it", 2, x::parseError);
         due("the slots do not belong to it", Check.answerOf(() -> busy().restore(0)), () -> x.restore(0));
+    }
+
+    /** An answer depends on the state of the object alone, not on what was asked before. */
+    private static void askedBefore() {
+        String first = Whole.ofAnswers(mid());
+        for (Change change : CHANGES) {
+            String due = Whole.ofAnswers(behind(Sentences::mid, change.call));
+            DecisionChain x = behind(Sentences::mid, y -> y.save(0), Whole::ofAnswers, change.call);
+            due("answers behind " + change.name, due, () -> Whole.ofAnswers(x));
+            x.undo();
+            due("answers behind undo of " + change.name, first, () -> Whole.ofAnswers(x));
+            DecisionChain y = behind(Sentences::mid, z -> z.save(1), change.call, Whole::ofAnswers, z -> z.restore(1));
+            due("answers behind restore, and " + change.name + " before it", first, () -> Whole.ofAnswers(y));
+        }
     }
 
     private static void undoneChanges() {
@@ -437,7 +452,8 @@ final class ChangeSentences extends Sentences {
         due("start()", 2, x::start);
         row("flow(k, 1)", x, (y, k) -> y.flow(k, 1), 200L, 0L, 800L);
         due("bestGain()", NOTHING, x::bestGain);
-        due("the walk begins there", 2, () -> behind(Sentences::mid, y -> y.setStart(2), DecisionChain::walk).walked(0));
+        due("the walk begins there", 2,
+                () -> behind(Sentences::mid, y -> y.setStart(2), DecisionChain::walk).walked(0));
         says("This is a change.");
         isChange(Sentences::busy, "setStart", y -> y.setStart(2));
         isChange(Sentences::busy, "setStart to the same", y -> y.setStart(0));
@@ -543,7 +559,8 @@ final class ChangeSentences extends Sentences {
         refused(NO_STATE, () -> behind(Sentences::mid, DecisionChain::walk, DecisionChain::undo), "all are undone",
                 DecisionChain::undo);
         refused(NO_STATE, () -> behind(Sentences::busy, y -> y.restore(0)), "behind restore", DecisionChain::undo);
-        refused(NO_STATE, () -> behind(Sentences::changed, y -> Check.load(y, MID)), "behind load", DecisionChain::undo);
+        refused(NO_STATE, () -> behind(Sentences::changed, y -> Check.load(y, MID)), "behind load",
+                DecisionChain::undo);
     }
 
     private static void undoable() {

@@ -149,8 +149,8 @@ final class FlowSentences extends Sentences {
         says("Returns the mean of the number of times, from 0 to H, at which the run is in a state, times 1000 to the"
                 + " power of H.");
         row("visits", mid(), DecisionChain::visits, 1780000000L, 1206000000L, 1014000000L);
-        row("the times 0 to 5", big(), DecisionChain::visits, THOUSAND_5, THOUSAND_5, THOUSAND_5, THOUSAND_5, THOUSAND_5,
-                THOUSAND_5);
+        row("the times 0 to 5", big(), DecisionChain::visits, THOUSAND_5, THOUSAND_5, THOUSAND_5, THOUSAND_5,
+                THOUSAND_5, THOUSAND_5);
         DecisionChain x = big();
         x.setHorizon(1);
         row("the times 0 and 1", x, DecisionChain::visits, 1000L, 1000L, 0L, 0L, 0L, 0L);
@@ -286,8 +286,8 @@ final class FlowSentences extends Sentences {
 
     private static void mostUsed() {
         promise(30);
-        says("Returns the greatest sum of the amounts that the actions of the run can use of a budget, of all runs with a"
-                + " probability greater than 0.");
+        says("Returns the greatest sum of the amounts that the actions of the run can use of a budget, of all runs with"
+                + " a probability greater than 0.");
         row("mostUsed", mid(), DecisionChain::mostUsed, 7, 4);
         due("the least probability", 1, () -> rare().mostUsed(0));
         DecisionChain x = rare();
@@ -296,6 +296,8 @@ final class FlowSentences extends Sentences {
         DecisionChain y = mid();
         y.setRule(0, 0, 10, 0);
         row("an action of the weight 0", y, DecisionChain::mostUsed, 0, 3);
+        y.setStart(2);
+        row("another start state", y, DecisionChain::mostUsed, 3, 6);
         says("- `budget`: number of the budget");
         row("tenths", tenths(), DecisionChain::mostUsed, 1, 1, 2, NO_INDEX);
         says("Returns the sum.");
@@ -357,14 +359,19 @@ final class FlowSentences extends Sentences {
         says("Returns the gain of a run as a float, divided by U as a float.");
         due("mean", 42840000f / 10000000f, () -> mid().meanGain());
         due("U is no float exactly", (float) 1000000000000000L / (float) U5, () -> big().meanGain());
-        DecisionChain x = loaded(MID.replace("5 uses 0 3", "777 uses 0 3"));
+        // The quotients of the doubles are 109.26 and 0.20816.
+        due("the gain 1092600000 is no float exactly", 109.26001f, () -> gaining("113").meanGain());
+        DecisionChain x = gaining("0");
         x.setHorizon(5);
-        long gain = x.gainOfRun();
-        due("neither is the gain", (float) gain / (float) U5, x::meanGain);
+        due("neither is U", 0.20816001f, x::meanGain);
         says("Returns the quotient.");
         due("none", 0f, () -> tiny().meanGain());
         due("the greatest", (float) 49950000000000000L / (float) U5, () -> steady("999", 1, 0).meanGain());
         due("the smallest", (float) -49950000000000000L / (float) U5, () -> steady("-999", 1, 0).meanGain());
+    }
+
+    private static DecisionChain gaining(String gain) {
+        return loaded(MID.replace("act 0 5", "act 0 " + gain));
     }
 
     private static void likeliest() {
@@ -374,8 +381,9 @@ final class FlowSentences extends Sentences {
         due("mean", 300000000L, () -> mid().likeliest());
         due("two of equal ones", 125000000L, () -> loaded(EVEN).likeliest());
         // Both actions lead to state 1 with 40, more than the 30 of each to a state of its own.
-        due("a row's, not that of the actions", 400L, () -> loaded("chain states 3 horizon 1 seed 0;act 0 0 to 0 60 to 1 40;"
-                + "act 0 0 to 2 60 to 1 40;act 1 0 to 1 100;act 2 0 to 2 100;rule 0 5 5").likeliest());
+        due("a row's, not that of the actions", 400L, () -> loaded("chain states 3 horizon 1 seed 0;"
+                + "act 0 0 to 0 60 to 1 40;act 0 0 to 2 60 to 1 40;act 1 0 to 1 100;act 2 0 to 2 100;"
+                + "rule 0 5 5").likeliest());
         DecisionChain x = rare();
         x.setStart(4);
         x.setHorizon(1);

@@ -43,7 +43,8 @@ abstract class Sentences {
                     + " the action brings a gain, uses budgets, and leads to other states by percents.",
             "What it is: what later calls answer is free.",
             "Description: The class parses a chain, computes the flows of visits exactly, compares what is used on the"
-                    + " mean with the budgets, finds best rules, tells how they depend on the budgets, and draws paths.",
+                    + " mean with the budgets, finds best rules, tells how they depend on the budgets, and draws"
+                    + " paths.",
             "Section 5: The grammar, with literals in quotes:",
             "Section 6: The constants:",
             "Section 6: The constructor and the methods follow, a promise each: the signature, then what it does.");

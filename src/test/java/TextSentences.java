@@ -145,6 +145,13 @@ final class TextSentences extends Sentences {
         due("a wrong text", NO_ARGUMENT, () -> x.load(20));
         due("buffered()", 0, x::buffered);
         due("the bytes before are gone", 2, () -> Check.load(x, HEAD + ACTS));
+        due("a letter behind them", NO_ARGUMENT, () -> {
+            Check.append(x, "chainx");
+            return x.load(5);
+        });
+        due("a letter behind them: errorPosition()", 5, x::errorPosition);
+        Check.append(x, HEAD + ACTS + "0");
+        due("a digit behind them", 2, () -> x.load((HEAD + ACTS).length()));
         says("- `n`: number of bytes to parse");
         DecisionChain y = new DecisionChain();
         Check.append(y, TINY + ";");
@@ -187,6 +194,17 @@ final class TextSentences extends Sentences {
         due("restore(0)", NO_STATE, () -> x.restore(0));
         due("restore(1)", NO_STATE, () -> x.restore(1));
         due("all is as in a new object with this chain", Whole.of(loaded(HEAD + ACTS)), () -> Whole.of(x));
+        DecisionChain again = mid();
+        due("bestGain() of the first text", 65000000L, again::bestGain);
+        due("load", 4, () -> Check.load(again, MID.replace("act 0 5", "act 0 6")));
+        due("bestGain() of a text with the same start and horizon", 76000000L, again::bestGain);
+        String turned = "chain states 2 horizon 1 seed 0;act 0 0 to 1 50 to 0 50;act 1 0 to 1 100";
+        for (int k = 0; k < 8; k++) {
+            Check.load(again, MID);
+            due("load", 2, () -> Check.load(again, turned));
+            row("percent of the text number " + k, again, (y, next) -> y.percent(0, 0, next), 50, 50, NO_INDEX);
+            due("walk() of the text number " + k, loaded(turned).walk(), again::walk);
+        }
         says("Returns the number of actions.");
         due("the smallest", 1, () -> Check.load(new DecisionChain(), TINY));
         due("the greatest", 18, () -> Check.load(new DecisionChain(), bigText()));
@@ -385,6 +403,8 @@ final class TextSentences extends Sentences {
             if (!token.equals("-")) {
                 boolean number = Character.isDigit(token.charAt(0));
                 wrongAt(text.toString(), number ? "x" : token + "x", 1);
+                wrongAt(text.toString(), number ? "x" : "q" + token.substring(1), 1);
+                wrongAt(text.toString(), number ? "x" : token.substring(0, token.length() - 1), 1);
                 wrongAt(text.toString(), ";", errorOfEnd(text.toString()));
             }
             if (!text.toString().endsWith(";act 0 ")) {
@@ -567,7 +587,8 @@ final class TextSentences extends Sentences {
         wrongAt("chain states ", "horizon", 1);
         wrongAt("chain ", "chain", 1);
         for (String cut : new String[] {"budget", "act", "act 0", "act 0 -", "act 0 1 uses", "act 0 1 uses 0",
-            "act 0 1 to", "act 0 1 to 0", "act 0 1 to 0 50 to", "act 0 1 to 0 50 to 1", "rule", "rule 0", "start", ""}) {
+            "act 0 1 to", "act 0 1 to 0", "act 0 1 to 0 50 to", "act 0 1 to 0 50 to 1", "rule", "rule 0", "start",
+            ""}) {
             wrongAt(HEAD + ";budget 1" + ACTS + ";" + cut, "", 1);
             wrongAt(HEAD + ";budget 1" + ACTS + ";" + cut, ";", 1);
         }
@@ -604,6 +625,7 @@ final class TextSentences extends Sentences {
         wrongAt(HEAD + ACTS + ";rule 0 10;rule ", "0", 3);
         wrongAt(HEAD + ACTS + ";rule 0 10;rule 1 10;rule ", "1 10", 3);
         wrongAt(bigText() + ";rule ", "5 10", 3);
+        wrongAt(HEAD + ACTS + ";rule 0 10;rule 1 10;rule ", "0 10", 3);
         wrongAt(HEAD + ACTS + ";rule 1 10;start 0;rule ", "1", 3);
         right(bigText() + ";rule 0 10;rule 1 10;rule 2 10;rule 3 10;rule 4 10", 18);
     }

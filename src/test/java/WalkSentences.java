@@ -38,7 +38,7 @@ final class WalkSentences extends Sentences {
         return all;
     }
 
-    /** A seed behind which the first draw ends with the digit and the second one with the two digits, or any of them. */
+    /** A seed behind which the first draw ends with the digit and the second one with the two digits; -1 is any. */
     private static int seedFor(int tenth, int hundredth) {
         for (int seed = 0; seed < 30011; seed++) {
             if ((tenth < 0 || drawn(seed) % 10 == tenth) && (hundredth < 0 || drawn(seed, 2) % 100 == hundredth)) {

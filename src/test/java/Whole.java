@@ -29,6 +29,15 @@ final class Whole {
         return whole.all.toString();
     }
 
+    /** What is worked out from the state of the object. */
+    static String ofAnswers(DecisionChain x) {
+        Whole whole = new Whole(x);
+        whole.addRuns();
+        whole.addStates();
+        whole.addBudgets();
+        return whole.all.toString();
+    }
+
     private void add(String what, Check.Call call) {
         all.append(what).append(' ').append(Check.answerOf(call)).append('\n');
     }
@@ -57,6 +66,51 @@ final class Whole {
             add("restore", () -> x.restore(k));
             addState();
         }
+    }
+
+    private void addRuns() {
+        add("gainOfRun", x::gainOfRun);
+        add("unit", x::unit);
+        add("broken", x::broken);
+        add("meanGain", x::meanGain);
+        add("likeliest", x::likeliest);
+        add("bestGain", x::bestGain);
+        add("pureSets", x::pureSets);
+        add("gainOfWalks", () -> x.gainOfWalks(5));
+        for (int time = 0; time <= 5; time++) {
+            int t = time;
+            add("reach", () -> x.reach(t));
+            add("likeliestAt", () -> x.likeliestAt(t));
+        }
+    }
+
+    private void addStates() {
+        for (int state = 0; state < x.states(); state++) {
+            int s = state;
+            add("isClosed", () -> x.isClosed(1 << s));
+            add("flow", () -> x.flow(s, 3));
+            add("use", () -> x.use(s, 0, 0));
+            add("visits", () -> x.visits(s));
+            add("hit", () -> x.hit(s));
+            add("firstTime", () -> x.firstTime(s));
+            add("busiest", () -> x.busiest(s));
+            add("value", () -> x.value(s, 3));
+            add("valueAction", () -> x.valueAction(s, 3));
+            add("bestAction", () -> x.bestAction(s));
+        }
+    }
+
+    private void addBudgets() {
+        for (int budget = 0; budget < x.budgets(); budget++) {
+            int b = budget;
+            add("usedOfRun", () -> x.usedOfRun(b));
+            add("left", () -> x.left(b));
+            add("within", () -> x.within(b));
+            add("mostUsed", () -> x.mostUsed(b));
+            add("worth", () -> x.worth(b, 5));
+            add("leastLimit", () -> x.leastLimit(b));
+        }
+        add("bestWeight", () -> x.bestWeight(0, 0, 1));
     }
 
     private void addReport() {
